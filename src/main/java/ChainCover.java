@@ -37,7 +37,8 @@ public final class ChainCover {
 
     public int turn() {
         for (int v = 0; v < elements; v++) {
-            turned[elements - 1 - v] = mirrored(everythingAbove(v));
+            int above = everythingAbove(v);
+            turned[elements - 1 - v] = mirrored(above);
         }
         for (int v = 0; v < elements; v++) {
             downs[v] = turned[v];
@@ -190,11 +191,14 @@ public final class ChainCover {
 
     private int unionOfLargest() {
         int sets = 1 << elements;
-        int most = sizeOfLargestAntichain(sets - 1);
+        int most = 0;
         int union = 0;
         for (int set = 0; set < sets; set++) {
-            if (count(set) == most && isAntichain(set)) {
-                union |= set;
+            int size = count(set);
+            if (size >= most && isAntichain(set)) {
+                // A greater size shows that what was gathered so far was not largest.
+                union = size > most ? set : union | set;
+                most = size;
             }
         }
         return union;
