@@ -73,8 +73,8 @@ public final class ChainCover {
         if (!isSetOfOrder(set)) {
             return BAD;
         }
-        // A chain loses at most one element with each layer of minimal elements, and a
-        // longest chain loses one with every layer: so the layers tell its length.
+        // A chain has at most one element in each layer of minimal elements, and an element
+        // of the last layer tops a chain that has one in every layer: so count the layers.
         int rest = set;
         int layers = 0;
         for (int i = 0; i < MOST && rest != 0; i++) {
