@@ -29,26 +29,9 @@ public final class PromisesTest {
         Check.end();
     }
 
-    private static ChainCover order(int... unders) {
-        ChainCover made = new ChainCover();
-        for (int under : unders) {
-            made.add(under);
-        }
-        return made;
-    }
-
     /** 0 and 1 are minimal, 2 above 0, 3 above 0 and 1, 4 above 2 and so above 0; 5 is alone. */
     private static ChainCover six() {
-        return order(0b0, 0b0, 0b1, 0b11, 0b100, 0b0);
-    }
-
-    /** 0 to 9, each above the ones before it. */
-    private static ChainCover tower() {
-        return order(0, 1, 2, 4, 8, 16, 32, 64, 128, 256);
-    }
-
-    private static ChainCover tenAlone() {
-        return order(0, 0, 0, 0, 0, 0, 0, 0, 0, 0);
+        return Orders.of(0b0, 0b0, 0b1, 0b11, 0b100, 0b0);
     }
 
     private static void promise1NewObject() {
@@ -118,7 +101,7 @@ public final class PromisesTest {
         Check.due("3: a new one in its place", x.add(2), 5);
         Check.due("3: the new one is above its own", x.below(1, 4), true);
         Check.due("3: the new one forgets the old one's", x.below(2, 4), false);
-        x = tower();
+        x = Orders.tower(10);
         x.turn();
         for (int left = 9; left >= 0; left--) {
             Check.due("3: removeLast() of a tower", x.removeLast(), left);
@@ -126,14 +109,14 @@ public final class PromisesTest {
         }
         Check.due("3: removeLast() after the last", x.removeLast(), BAD);
         Check.due("3: add after the last", x.add(0), 1);
-        x = tenAlone();
+        x = Orders.alone(10);
         x.removeLast();
         Check.due("3: there is room again", x.add(511), 10);
     }
 
     private static void promise4Turn() {
         Check.due("4: turn() of none", new ChainCover().turn(), 0);
-        Check.due("4: turn() of one", order(0).turn(), 1);
+        Check.due("4: turn() of one", Orders.of(0).turn(), 1);
         ChainCover x = six();
         Check.due("4: turn()", x.turn(), 6);
         // 0 to 5 are now 5 to 0.
@@ -154,7 +137,7 @@ public final class PromisesTest {
         Check.due("4: turn() back", x.turn(), 6);
         Check.due("4: as before", x.below(0, 4), true);
         Check.due("4: as before", x.below(1, 4), false);
-        Check.due("4: turn() of ten", tower().turn(), 10);
+        Check.due("4: turn() of ten", Orders.tower(10).turn(), 10);
     }
 
     private static void promise5Size() {
@@ -186,7 +169,7 @@ public final class PromisesTest {
             Check.due("6: below(v, 6)", x.below(v, 6), false);
             Check.due("6: below(6, v)", x.below(6, v), false);
         }
-        x = tower();
+        x = Orders.tower(10);
         for (int wrong : NEVER_AN_ELEMENT) {
             Check.due("6: below(" + wrong + ", 9)", x.below(wrong, 9), false);
             Check.due("6: below(0, " + wrong + ")", x.below(0, wrong), false);
@@ -206,11 +189,11 @@ public final class PromisesTest {
         Check.due("7: width(64)", x.width(64), BAD);
         for (int wrong : NEVER_A_SET) {
             Check.due("7: width(" + wrong + ")", x.width(wrong), BAD);
-            Check.due("7: width(" + wrong + ") of ten", tenAlone().width(wrong), BAD);
+            Check.due("7: width(" + wrong + ") of ten", Orders.alone(10).width(wrong), BAD);
         }
-        Check.due("7: ten alone", tenAlone().width(1023), 10);
-        Check.due("7: five of ten alone", tenAlone().width(0b1010101010), 5);
-        Check.due("7: tower", tower().width(1023), 1);
+        Check.due("7: ten alone", Orders.alone(10).width(1023), 10);
+        Check.due("7: five of ten alone", Orders.alone(10).width(0b1010101010), 5);
+        Check.due("7: tower", Orders.tower(10).width(1023), 1);
     }
 
     private static void promise8Chains() {
@@ -222,17 +205,17 @@ public final class PromisesTest {
         Check.due("8: chains of all", x.chains(0b111111), 3);
         Check.due("8: chains of 0 to 3", x.chains(0b1111), 2);
         // 2 is above 0 and 1, 3 above 0: the chain 0, 2, taken first, would leave 1 and 3 single.
-        Check.due("8: taking the first chain that comes is not enough", order(0, 0, 3, 1).chains(15), 2);
+        Check.due("8: taking the first chain that comes is not enough", Orders.of(0, 0, 3, 1).chains(15), 2);
         // 0 and 1 under 2 under 3 and 4: with 2 in the one chain, the other still goes on from 1 to 4.
-        Check.due("8: through a middle", order(0, 0, 3, 4, 4).chains(31), 2);
+        Check.due("8: through a middle", Orders.of(0, 0, 3, 4, 4).chains(31), 2);
         Check.due("8: chains(64)", x.chains(64), BAD);
         for (int wrong : NEVER_A_SET) {
             Check.due("8: chains(" + wrong + ")", x.chains(wrong), BAD);
-            Check.due("8: chains(" + wrong + ") of ten", tower().chains(wrong), BAD);
+            Check.due("8: chains(" + wrong + ") of ten", Orders.tower(10).chains(wrong), BAD);
         }
-        Check.due("8: ten alone", tenAlone().chains(1023), 10);
-        Check.due("8: tower", tower().chains(1023), 1);
-        Check.due("8: part of a tower", tower().chains(0b1000100001), 1);
+        Check.due("8: ten alone", Orders.alone(10).chains(1023), 10);
+        Check.due("8: tower", Orders.tower(10).chains(1023), 1);
+        Check.due("8: part of a tower", Orders.tower(10).chains(0b1000100001), 1);
     }
 
     private static void promise9LongestChain() {
@@ -245,11 +228,11 @@ public final class PromisesTest {
         Check.due("9: longestChain(64)", x.longestChain(64), BAD);
         for (int wrong : NEVER_A_SET) {
             Check.due("9: longestChain(" + wrong + ")", x.longestChain(wrong), BAD);
-            Check.due("9: longestChain(" + wrong + ") of ten", tower().longestChain(wrong), BAD);
+            Check.due("9: longestChain(" + wrong + ") of ten", Orders.tower(10).longestChain(wrong), BAD);
         }
-        Check.due("9: ten alone", tenAlone().longestChain(1023), 1);
-        Check.due("9: tower", tower().longestChain(1023), 10);
-        Check.due("9: part of a tower", tower().longestChain(0b1010110001), 5);
+        Check.due("9: ten alone", Orders.alone(10).longestChain(1023), 1);
+        Check.due("9: tower", Orders.tower(10).longestChain(1023), 10);
+        Check.due("9: part of a tower", Orders.tower(10).longestChain(0b1010110001), 5);
     }
 
     private static void promise10And11LowestAndHighest() {
@@ -261,20 +244,20 @@ public final class PromisesTest {
         Check.due("10: lowest() turned", x.lowest(), 0b000111);
         Check.due("11: highest() turned", x.highest(), 0b110001);
         // One on top of two on top of one: just one largest.
-        Check.due("10: just one", order(0, 1, 1, 6).lowest(), 0b110);
-        Check.due("11: just one", order(0, 1, 1, 6).highest(), 0b110);
+        Check.due("10: just one", Orders.of(0, 1, 1, 6).lowest(), 0b110);
+        Check.due("11: just one", Orders.of(0, 1, 1, 6).highest(), 0b110);
         // 0 and 1 both under 2 and 3; 4 is alone.
-        Check.due("10: crossed", order(0, 0, 3, 3, 0).lowest(), 0b10011);
-        Check.due("11: crossed", order(0, 0, 3, 3, 0).highest(), 0b11100);
+        Check.due("10: crossed", Orders.of(0, 0, 3, 3, 0).lowest(), 0b10011);
+        Check.due("11: crossed", Orders.of(0, 0, 3, 3, 0).highest(), 0b11100);
         // The minimal elements are not always a largest antichain: 0 under 1, 2, 3.
-        Check.due("10: not the minimal ones", order(0, 1, 1, 1).lowest(), 0b1110);
-        Check.due("11: not the maximal ones", order(0, 0, 0, 7).highest(), 0b111);
-        Check.due("10: tower", tower().lowest(), 1);
-        Check.due("11: tower", tower().highest(), 512);
-        Check.due("10: ten alone", tenAlone().lowest(), 1023);
-        Check.due("11: ten alone", tenAlone().highest(), 1023);
-        Check.due("10: one", order(0).lowest(), 1);
-        Check.due("11: one", order(0).highest(), 1);
+        Check.due("10: not the minimal ones", Orders.of(0, 1, 1, 1).lowest(), 0b1110);
+        Check.due("11: not the maximal ones", Orders.of(0, 0, 0, 7).highest(), 0b111);
+        Check.due("10: tower", Orders.tower(10).lowest(), 1);
+        Check.due("11: tower", Orders.tower(10).highest(), 512);
+        Check.due("10: ten alone", Orders.alone(10).lowest(), 1023);
+        Check.due("11: ten alone", Orders.alone(10).highest(), 1023);
+        Check.due("10: one", Orders.of(0).lowest(), 1);
+        Check.due("11: one", Orders.of(0).highest(), 1);
         Check.due("10: none", new ChainCover().lowest(), 0);
         Check.due("11: none", new ChainCover().highest(), 0);
     }
@@ -290,45 +273,45 @@ public final class PromisesTest {
         Check.due("12: the empty set", x.isLargest(0), false);
         Check.due("12: the empty set of none", new ChainCover().isLargest(0), true);
         Check.due("12: no set of none", new ChainCover().isLargest(1), false);
-        Check.due("12: ten alone", tenAlone().isLargest(1023), true);
-        Check.due("12: nine of ten alone", tenAlone().isLargest(1022), false);
-        Check.due("12: {9} of a tower", tower().isLargest(512), true);
-        Check.due("12: {0, 9} of a tower", tower().isLargest(513), false);
+        Check.due("12: ten alone", Orders.alone(10).isLargest(1023), true);
+        Check.due("12: nine of ten alone", Orders.alone(10).isLargest(1022), false);
+        Check.due("12: {9} of a tower", Orders.tower(10).isLargest(512), true);
+        Check.due("12: {0, 9} of a tower", Orders.tower(10).isLargest(513), false);
         Check.due("12: isLargest(64 + {0, 1, 5})", x.isLargest(0b1100011), false);
         Check.due("12: isLargest(64 + {0, 1})", x.isLargest(0b1000011), false);
         for (int wrong : NEVER_A_SET) {
             Check.due("12: isLargest(" + wrong + ")", x.isLargest(wrong), false);
-            Check.due("12: isLargest(" + wrong + ") of a tower", tower().isLargest(wrong), false);
-            Check.due("12: isLargest(" + wrong + ") of ten", tenAlone().isLargest(wrong), false);
+            Check.due("12: isLargest(" + wrong + ") of a tower", Orders.tower(10).isLargest(wrong), false);
+            Check.due("12: isLargest(" + wrong + ") of ten", Orders.alone(10).isLargest(wrong), false);
             Check.due("12: isLargest(" + wrong + ") of none", new ChainCover().isLargest(wrong), false);
         }
     }
 
     private static void promise13InSomeLargest() {
-        ChainCover x = order(0, 1, 1, 6, 8);
+        ChainCover x = Orders.of(0, 1, 1, 6, 8);
         Check.due("13: under the two", x.inSomeLargest(0), false);
         Check.due("13: of the two", x.inSomeLargest(1), true);
         Check.due("13: of the two", x.inSomeLargest(2), true);
         Check.due("13: above the two", x.inSomeLargest(3), false);
         Check.due("13: not there", x.inSomeLargest(5), false);
         // {0, 1}, {0, 3} and {2, 3}: 3 is above 1 and 2 above 0 and 1. A largest one for each.
-        ChainCover y = order(0, 0, 3, 2);
+        ChainCover y = Orders.of(0, 0, 3, 2);
         for (int v = 0; v < 4; v++) {
             Check.due("13: inSomeLargest(" + v + ")", y.inSomeLargest(v), true);
         }
         for (int v = 0; v < 10; v++) {
-            Check.due("13: tower", tower().inSomeLargest(v), true);
+            Check.due("13: tower", Orders.tower(10).inSomeLargest(v), true);
         }
         // Between lowest {0, 1} and highest {4, 5} there is also {2, 3}.
-        ChainCover z = order(0, 0, 3, 3, 12, 12);
+        ChainCover z = Orders.of(0, 0, 3, 3, 12, 12);
         Check.due("13: neither in the lowest nor in the highest", z.inSomeLargest(2), true);
         // 0 and 1 under 2 under 3 and 4: between the lowest and the highest, but in no largest.
-        Check.due("13: between two but in none", order(0, 0, 3, 4, 4).inSomeLargest(2), false);
+        Check.due("13: between two but in none", Orders.of(0, 0, 3, 4, 4).inSomeLargest(2), false);
         z.removeLast();
         Check.due("13: taken away", z.inSomeLargest(5), false);
         for (int wrong : NEVER_AN_ELEMENT) {
             Check.due("13: inSomeLargest(" + wrong + ")", x.inSomeLargest(wrong), false);
-            Check.due("13: inSomeLargest(" + wrong + ") of ten", tenAlone().inSomeLargest(wrong), false);
+            Check.due("13: inSomeLargest(" + wrong + ") of ten", Orders.alone(10).inSomeLargest(wrong), false);
             Check.due("13: inSomeLargest(" + wrong + ") of none", new ChainCover().inSomeLargest(wrong), false);
         }
     }
