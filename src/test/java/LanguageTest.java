@@ -8,6 +8,7 @@ import com.sun.source.tree.CompoundAssignmentTree;
 import com.sun.source.tree.ExpressionTree;
 import com.sun.source.tree.ForLoopTree;
 import com.sun.source.tree.IdentifierTree;
+import com.sun.source.tree.LiteralTree;
 import com.sun.source.tree.MethodInvocationTree;
 import com.sun.source.tree.MethodTree;
 import com.sun.source.tree.ModifiersTree;
@@ -66,7 +67,7 @@ public final class LanguageTest extends TreePathScanner<Void, Void> {
     private final CompilationUnitTree unit;
     private final SourcePositions positions;
     private final Map<String, MethodTree> methods = new HashMap<>();
-    private final Set<String> constants = new HashSet<>();
+    private final Map<String, Tree> constants = new HashMap<>();
     private final Set<String> arrayFields = new HashSet<>();
     private int fields = 0;
 
@@ -138,7 +139,7 @@ public final class LanguageTest extends TreePathScanner<Void, Void> {
     private void lookAtField(VariableTree field) {
         Set<Modifier> flags = field.getModifiers().getFlags();
         if (flags.contains(Modifier.STATIC)) {
-            constants.add(field.getName().toString());
+            constants.put(field.getName().toString(), field.getInitializer());
             keeps(5, "a static field is a constant", field,
                 flags.contains(Modifier.FINAL) && isNumber(field.getInitializer()));
             keeps(5, "a constant is an int or a long", field,
@@ -257,10 +258,8 @@ public final class LanguageTest extends TreePathScanner<Void, Void> {
         Tree around = getCurrentPath().getParentPath().getParentPath().getLeaf();
         keeps(4, "an array is made for a field alone", made,
             holder instanceof VariableTree && around instanceof ClassTree);
-        boolean known = made.getInitializers() == null && made.getDimensions().size() == 1
-            && (isNumber(made.getDimensions().get(0))
-                || constants.contains(made.getDimensions().get(0).toString()));
-        keeps(4, "an array's length is a literal or a constant", made, known);
+        keeps(4, "an array's length is a literal or a constant, 1 or more", made,
+            made.getDimensions().size() == 1 && isLength(made.getDimensions().get(0)));
         return super.visitNewArray(made, none);
     }
 
@@ -305,6 +304,11 @@ public final class LanguageTest extends TreePathScanner<Void, Void> {
         }
         keeps(8, "a loop counts up to a bound that it leaves alone", loop, seen);
         return super.visitForLoop(loop, none);
+    }
+
+    private boolean isLength(Tree tree) {
+        Tree number = constants.getOrDefault(tree.toString(), tree);
+        return number.getKind() == Tree.Kind.INT_LITERAL && (Integer) ((LiteralTree) number).getValue() >= 1;
     }
 
     /** What the counter is smaller than as long as the loop goes on; empty if that is not seen. */
